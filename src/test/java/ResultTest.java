@@ -1,13 +1,9 @@
-/**
- * Promises 2, 3, 6 to 8 and 11 to 16: which calls make, keep and discard the
- * result.
- */
+/** The document's terms: which calls keep the result and which discard it. */
 final class ResultTest {
     private static final int PLUS = Scene.symbol('+');
 
     private static Scene parsed(Check check) {
-        Scene scene = new Scene(check, 8, "+L2 -P4");
-        scene.parses("-a+a", PrecRewrite.ONE_TREE, 2);
+        Scene scene = Scene.state(check, "-a+a", true);
         isKept(check, scene, "after parse");
         return scene;
     }
@@ -16,34 +12,41 @@ final class ResultTest {
         check.due("treeCount() " + when, scene.x.treeCount(), PrecRewrite.ONE_TREE);
         check.due("forestSize() " + when, scene.x.forestSize(), 2);
         scene.shape(2, "2:0:1", "0:1:1", "-1:0:3", "2:3:3");
-        for (int i : new int[] {-1, 4, 5, 15, 16, Integer.MIN_VALUE, Integer.MAX_VALUE}) {
-            scene.positionIsInvalid(when, i);
+        scene.positionsOutsideAreInvalid(when);
+    }
+
+    private static void keptByReading(Check check) {
+        check.sentence("It is kept until a call that discards it; each promise below says whether the call does.");
+        Scene scene = parsed(check);
+        for (int round = 0; round < 3; round++) {
+            State.all(scene.x);
+            isKept(check, scene, "after every reading call");
         }
     }
 
-    private static void discards(Check check) {
-        Scene scene = parsed(check);
-        check.due("declare", scene.x.declare(9, PrecRewrite.LEFT, 2), PrecRewrite.OK);
-        scene.hasNoResult("after declare");
-        scene = parsed(check);
-        check.due("undeclare", scene.x.undeclare(PLUS), PrecRewrite.OK);
-        scene.hasNoResult("after undeclare");
-        scene = parsed(check);
-        check.due("addToken", scene.x.addToken(PrecRewrite.T_ATOM, 0), PrecRewrite.OK);
-        scene.hasNoResult("after addToken");
-        scene = parsed(check);
-        check.due("removeLast", scene.x.removeLast(), PrecRewrite.OK);
-        scene.hasNoResult("after removeLast");
-        scene = parsed(check);
-        scene.x.clearTokens();
-        scene.hasNoResult("after clearTokens");
-        check.due("parse of nothing", scene.x.parse(), PrecRewrite.NO_TREE);
-        check.due("forestSize of nothing", scene.x.forestSize(), 0);
-        scene.x.clearTokens();
-        scene.hasNoResult("after clearTokens of nothing");
+    private static void absent(Check check) {
+        check.sentence("Without a result, `treeCount()` and `forestSize()` answer NO_RESULT, and `root()`, `parent(i)`,"
+                + " `spanFirst(i)`, `spanLast(i)` answer INVALID.");
+        new Scene(check, 8, "").hasNoResult("on a fresh object");
+        for (String tokens : Scene.STRINGS) {
+            Scene scene = Scene.state(check, tokens, false);
+            scene.hasNoResult(scene.name);
+        }
+        Scene declared = parsed(check);
+        declared.discards("declare", () -> declared.x.declare(Scene.FREE, PrecRewrite.POSTFIX, 5));
+        Scene undeclared = parsed(check);
+        undeclared.discards("undeclare of a symbol in no token", () -> undeclared.x.undeclare(Scene.symbol('=')));
+        Scene longer = parsed(check);
+        longer.discards("addToken", () -> longer.x.addToken(PrecRewrite.T_ATOM, 0));
+        Scene shorter = parsed(check);
+        shorter.discards("removeLast", shorter.x::removeLast);
+        Scene cleared = parsed(check);
+        cleared.x.clearTokens();
+        cleared.hasNoResult("after clearTokens");
     }
 
-    private static void changesAndBack(Check check) {
+    private static void doesNotComeBack(Check check) {
+        check.sentence("`parse()` makes a result from the current declarations and tokens.");
         Scene scene = parsed(check);
         scene.x.addToken(PrecRewrite.T_ATOM, 0);
         scene.x.removeLast();
@@ -57,20 +60,22 @@ final class ResultTest {
     }
 
     private static void refusedCallsKeep(Check check) {
+        check.sentence("A refused call (declare, undeclare, addToken or removeLast answering anything other than OK)"
+                + " changes nothing, the result included.");
         Scene scene = parsed(check);
         check.due("declare", scene.x.declare(16, 1, 1), PrecRewrite.BAD_SYMBOL);
-        isKept(check, scene, "after BAD_SYMBOL");
-        check.due("declare", scene.x.declare(9, 0, 1), PrecRewrite.BAD_KIND);
+        isKept(check, scene, "after declare(16, 1, 1)");
+        check.due("declare", scene.x.declare(Scene.FREE, 0, 1), PrecRewrite.BAD_KIND);
         isKept(check, scene, "after BAD_KIND");
-        check.due("declare", scene.x.declare(9, 1, 7), PrecRewrite.BAD_LEVEL);
+        check.due("declare", scene.x.declare(Scene.FREE, 1, 7), PrecRewrite.BAD_LEVEL);
         isKept(check, scene, "after BAD_LEVEL");
         check.due("declare", scene.x.declare(PLUS, PrecRewrite.LEFT, 2), PrecRewrite.DECLARED);
         isKept(check, scene, "after DECLARED");
-        check.due("declare", scene.x.declare(9, PrecRewrite.RIGHT, 2), PrecRewrite.LEVEL_CLASH);
+        check.due("declare", scene.x.declare(Scene.FREE, PrecRewrite.RIGHT, 2), PrecRewrite.LEVEL_CLASH);
         isKept(check, scene, "after LEVEL_CLASH");
         check.due("undeclare", scene.x.undeclare(-1), PrecRewrite.BAD_SYMBOL);
         isKept(check, scene, "after undeclare(-1)");
-        check.due("undeclare", scene.x.undeclare(9), PrecRewrite.UNDECLARED);
+        check.due("undeclare", scene.x.undeclare(Scene.FREE), PrecRewrite.UNDECLARED);
         isKept(check, scene, "after UNDECLARED");
         check.due("addToken", scene.x.addToken(5, 0), PrecRewrite.BAD_KIND);
         isKept(check, scene, "after addToken(5, 0)");
@@ -79,10 +84,12 @@ final class ResultTest {
     }
 
     private static void refusedAtTheEndsKeep(Check check) {
-        Scene scene = new Scene(check, 8, "+L2 -P4");
+        check.sentence("changes nothing, the result included");
+        Scene scene = new Scene(check, 8, Scene.DECLARED);
         scene.parses("a+a+a+-a", PrecRewrite.ONE_TREE, 5);
         check.due("addToken", scene.x.addToken(PrecRewrite.T_ATOM, 0), PrecRewrite.FULL);
         check.due("treeCount() after FULL", scene.x.treeCount(), PrecRewrite.ONE_TREE);
+        check.due("forestSize() after FULL", scene.x.forestSize(), 5);
         scene.shape(5, "1:0:0", "3:0:2", "1:2:2", "5:0:4", "3:4:4", "-1:0:7", "5:6:7", "6:7:7");
         scene.parses("", PrecRewrite.NO_TREE, 0);
         check.due("removeLast", scene.x.removeLast(), PrecRewrite.EMPTY);
@@ -90,44 +97,29 @@ final class ResultTest {
         check.due("forestSize() after EMPTY", scene.x.forestSize(), 0);
     }
 
-    private static void readingKeeps(Check check) {
-        Scene scene = parsed(check);
-        for (int i = -1; i <= 16; i++) {
-            scene.x.kindOf(i);
-            scene.x.levelOf(i);
-            scene.x.tokenAt(i);
-            scene.x.tokenCount();
-        }
-        isKept(check, scene, "after reading");
-        for (int i = 0; i < 3; i++) {
-            check.due("parse() again", scene.x.parse(), PrecRewrite.ONE_TREE);
-            isKept(check, scene, "after parse again");
-        }
-        check.due("tokenCount() after parse", scene.x.tokenCount(), 4);
-        check.due("kindOf after parse", scene.x.kindOf(PLUS), PrecRewrite.LEFT);
-    }
-
-    private static void parseReplaces(Check check) {
-        Scene scene = parsed(check);
-        scene.parses("a+", PrecRewrite.NO_TREE, 0);
-        scene.hasNoShape("without a tree");
-        scene.parses("a", PrecRewrite.ONE_TREE, 1);
-        scene.shape(0, "-1:0:0");
-        scene.positionIsInvalid("beyond one token", 1);
-        scene.parses("", PrecRewrite.NO_TREE, 0);
-        scene.hasNoShape("without a token");
-        scene.parses("-a+a", PrecRewrite.ONE_TREE, 2);
-        isKept(check, scene, "after other parses");
+    private static void refusedCallsMakeNone(Check check) {
+        check.sentence("A refused call (declare, undeclare, addToken or removeLast answering anything other than OK)"
+                + " changes nothing");
+        Scene scene = new Scene(check, 8, "");
+        check.due("removeLast", scene.x.removeLast(), PrecRewrite.EMPTY);
+        scene.hasNoResult("after EMPTY");
+        check.due("undeclare", scene.x.undeclare(3), PrecRewrite.UNDECLARED);
+        scene.hasNoResult("after UNDECLARED");
+        check.due("declare", scene.x.declare(3, 3, 0), PrecRewrite.BAD_LEVEL);
+        scene.hasNoResult("after BAD_LEVEL");
+        scene.add("aaaaaaaa");
+        check.due("addToken", scene.x.addToken(PrecRewrite.T_ATOM, 0), PrecRewrite.FULL);
+        scene.hasNoResult("after FULL");
     }
 
     public static void main(String[] args) {
         Check check = new Check();
-        discards(check);
-        changesAndBack(check);
+        keptByReading(check);
+        absent(check);
+        doesNotComeBack(check);
         refusedCallsKeep(check);
         refusedAtTheEndsKeep(check);
-        readingKeeps(check);
-        parseReplaces(check);
+        refusedCallsMakeNone(check);
         check.end();
     }
 }

@@ -1,0 +1,201 @@
+/** The document's terms: the token string and its trees. */
+final class TreesTest {
+    private static final int ONE = PrecRewrite.ONE_TREE;
+    private static final String OPERATORS = "-P1 +L2 ^R3 !Q4 =N5";
+
+    private static Scene scene(Check check) {
+        return new Scene(check, 16, OPERATORS);
+    }
+
+    private static void emptyAndFull(Check check) {
+        check.sentence("The token string is t[0..n-1] with 0 <= n <= capacity.");
+        for (int capacity = 8; capacity <= 16; capacity++) {
+            Scene full = new Scene(check, capacity, OPERATORS);
+            full.haveNoTree("");
+            full.hasRoot("-".repeat(capacity - 1) + "a", 1, 0);
+            full.hasRoot("a" + "!".repeat(capacity - 1), 1, capacity - 1);
+            check.due("addToken", full.x.addToken(PrecRewrite.T_ATOM, 0), PrecRewrite.FULL);
+            check.due("parse() of all " + capacity, full.x.parse(), ONE);
+            check.due("spanLast of the last", full.x.spanLast(capacity - 1), capacity - 1);
+        }
+    }
+
+    private static void atom(Check check) {
+        check.sentence("ATOM node: i == j and t[i] is ATOM. No child.");
+        Scene scene = scene(check);
+        scene.parses("a", ONE, 1);
+        scene.shape(0, "-1:0:0");
+        scene.haveNoTree("aa", "aaa", "aaaaaaaaaaaaaaaa", "(aa)", "-aa", "aa!", "a+aa", "aa+a");
+        scene.haveNoTree("(", ")", "+", "-", "!", "^", "=", "|");
+    }
+
+    private static void paren(Check check) {
+        check.sentence("PAREN node: j >= i+2, t[i] is OPEN, t[j] is CLOSE; child: a tree of [i+1..j-1].");
+        Scene scene = scene(check);
+        scene.parses("(a)", ONE, 1);
+        scene.shape(0, "-1:0:2", "0:1:1", "-1:0:2");
+        scene.hasRoot("((a))", 1, 0);
+        scene.hasRoot("(((((((a)))))))", 1, 0);
+        scene.haveNoTree("()", ")(", "(())", "()a", "a()", "-()", "()!", "a+()", "(a+())");
+        scene.haveNoTree("(a", "a)", ")a(", "(a(", ")a)", "(a))", "((a)", "(a)(a)", "(a)a", "a(a)", "(aa)");
+        scene.haveNoTree("(a+)a", "a(+a)", "(a)+(a", "(a+a))", "((a+a)");
+    }
+
+    private static void prefix(Check check) {
+        check.sentence("PREFIX node: j > i, t[i] is OP s, s declared PREFIX; child: a tree of [i+1..j].");
+        Scene scene = scene(check);
+        scene.parses("-a", ONE, 1);
+        scene.shape(0, "-1:0:1", "0:1:1");
+        scene.parses("-(a)", ONE, 1);
+        scene.shape(0, "-1:0:3", "0:1:3", "1:2:2", "0:1:3");
+        scene.haveNoTree("-", "--", "a-", "-a-", "(-)", "-)", "-(", "-aa", "a-a", "+a", "!a", "^a", "=a", "|a");
+    }
+
+    private static void postfix(Check check) {
+        check.sentence("POSTFIX node: j > i, t[j] is OP s, s declared POSTFIX; child: a tree of [i..j-1].");
+        Scene scene = scene(check);
+        scene.parses("a!", ONE, 1);
+        scene.shape(1, "1:0:0", "-1:0:1");
+        scene.parses("(a)!", ONE, 1);
+        scene.shape(3, "3:0:2", "0:1:1", "3:0:2", "-1:0:3");
+        scene.haveNoTree("!", "!!", "!a", "!a!", "(!)", "(!", ")!", "aa!", "a!a", "a+", "a-", "a^", "a=", "a|");
+    }
+
+    private static void infix(Check check) {
+        check.sentence("INFIX node: i < k < j, t[k] is OP s, s declared LEFT, RIGHT or NONASSOC; left child a tree of"
+                + " [i..k-1], right child a tree of [k+1..j].");
+        Scene scene = scene(check);
+        for (String operator : new String[] {"+", "^", "="}) {
+            scene.parses("a" + operator + "a", ONE, 1);
+            scene.shape(1, "1:0:0", "-1:0:2", "1:2:2");
+            scene.hasRoot("(a)" + operator + "a", 1, 3);
+            scene.hasRoot("a" + operator + "(a)", 1, 1);
+            scene.haveNoTree(operator, operator + "a", "a" + operator, operator + operator, "(" + operator + ")");
+            scene.haveNoTree("a" + operator + operator + "a", "(a" + operator + ")a", "a(" + operator + "a)");
+        }
+        scene.haveNoTree("a-a", "a!a", "a|a");
+    }
+
+    private static void undeclared(Check check) {
+        check.sentence("An OP token of an undeclared symbol is in no node, so no tree covers it.");
+        Scene scene = scene(check);
+        scene.haveNoTree("|", "|a", "a|", "a|a", "(|)", "(a|a)", "a+|a", "|a+a", "a+a|", "-|", "|!", "||");
+        scene.x.declare(Scene.FREE, PrecRewrite.PREFIX, 6);
+        scene.hasRoot("|a", 1, 0);
+        scene.x.undeclare(Scene.FREE);
+        scene.haveNoTree("|a");
+    }
+
+    private static void symbolDecides(Check check) {
+        check.sentence("The level and kind of a PREFIX, POSTFIX or INFIX node are those of its symbol.");
+        for (int symbol = 0; symbol < 16; symbol++) {
+            for (int level = 1; level <= 6; level++) {
+                int other = (symbol + 5) % 16;
+                PrecRewrite x = new PrecRewrite(8);
+                x.declare(symbol, PrecRewrite.LEFT, level);
+                x.declare(other, PrecRewrite.RIGHT, level == 3 ? 4 : 3);
+                for (int i = 0; i < 5; i++) {
+                    x.addToken(i % 2 + 1, i == 1 ? symbol : other);
+                }
+                check.due("parse()", x.parse(), ONE);
+                check.due("root() with symbol " + symbol + " at " + level, x.root(), level > 3 ? 3 : 1);
+            }
+        }
+    }
+
+    private static void emptyForest(Check check) {
+        check.sentence("The forest is the set of trees of [0..n-1]; it is empty when n == 0.");
+        Scene scene = scene(check);
+        scene.haveNoTree("");
+        scene.parses("a", ONE, 1);
+        scene.haveNoTree("");
+        scene.haveNoTree("aa", "a+a+", "+a+a", "a+aa+a", "a)(a");
+    }
+
+    private static void equalTrees(Check check) {
+        check.sentence("Two trees are equal iff they have the same nodes (same node kinds, same spans, same INFIX split"
+                + " k).");
+        Scene scene = scene(check);
+        scene.parses("--a", ONE, 1);
+        scene.parses("a!!", ONE, 1);
+        scene.parses("-a!", ONE, 2);
+        scene.parses("-a+a", ONE, 2);
+        scene.parses("a+a!", ONE, 2);
+        scene.parses("a+-a", ONE, 1);
+        scene.parses("a!+a", ONE, 1);
+        scene.parses("a+a+a", ONE, 2);
+        scene.parses("a=a=a", PrecRewrite.NO_TREE, 2);
+        scene.parses("a+a^a", ONE, 2);
+        scene.parses("(a+a)+a", ONE, 1);
+        scene.parses("(-a!)+(-a!)", ONE, 4);
+        scene.parses("--a!!", ONE, 6);
+    }
+
+    private static void identifyingTokens(Check check) {
+        check.sentence("The identifying token of a node: ATOM node -> its atom; PAREN node -> its OPEN; PREFIX,"
+                + " POSTFIX, INFIX node -> its OP token.");
+        Scene scene = scene(check);
+        scene.hasRoot("a", 1, 0);
+        scene.hasRoot("(a+a)", 1, 0);
+        scene.hasRoot("-a!", 2, 0);
+        scene.hasRoot("(a)!", 1, 3);
+        scene.hasRoot("(a)+a", 1, 3);
+        scene.parses("-(a!^a)", ONE, 1);
+        scene.shape(0, "-1:0:6", "0:1:6", "3:2:2", "4:2:3", "1:2:5", "4:5:5", "0:1:6");
+    }
+
+    private static void closeTokens(Check check) {
+        check.sentence("for a CLOSE token, it is the PAREN node whose span ends at i");
+        Scene scene = scene(check);
+        scene.parses("((a)+(a))!", ONE, 1);
+        scene.shape(9, "9:0:8", "4:1:3", "1:2:2", "4:1:3", "0:1:7", "4:5:7", "5:6:6", "4:5:7", "9:0:8", "-1:0:9");
+    }
+
+    private static void oneNodeEach(Check check) {
+        check.sentence("In every tree each token has exactly one node.");
+        Scene scene = scene(check);
+        for (String tokens : new String[] {"a", "(a)", "-a!", "a+a^a", "((a+a)!^-(-a)^a)", "-a+(a^a^a!)=a+a",
+            "a+a+a+a+a+a+a+a", "-(-(-(-(-(a)))))", "((a)+(a))!", "a^-a!+a=(-a)"}) {
+            scene.set(tokens);
+            check.due("parse of " + tokens, scene.x.parse(), ONE);
+            for (int i = 0; i < tokens.length(); i++) {
+                hasItsPlace(check, scene.x, i, "token " + i + " of " + tokens);
+            }
+        }
+    }
+
+    /** The node of the token lies around the token and inside the node above it. */
+    private static void hasItsPlace(Check check, PrecRewrite x, int i, String what) {
+        check.holds(what + " is in its span", x.spanFirst(i) >= 0 && x.spanFirst(i) <= i && x.spanLast(i) >= i);
+        int above = x.parent(i);
+        if (above == PrecRewrite.NONE) {
+            check.due("spanFirst at the root, " + what, x.spanFirst(i), 0);
+            check.due("spanLast at the root, " + what, x.spanLast(i), x.tokenCount() - 1);
+            check.due("spanFirst of root(), " + what, x.spanFirst(x.root()), 0);
+        } else {
+            int length = x.spanLast(i) - x.spanFirst(i);
+            check.holds(what + " starts inside", x.spanFirst(above) <= x.spanFirst(i));
+            check.holds(what + " ends inside", x.spanLast(above) >= x.spanLast(i));
+            check.holds(what + " is shorter", x.spanLast(above) - x.spanFirst(above) > length);
+            check.holds(what + " is beside the one above", above < x.spanFirst(i) || above > x.spanLast(i));
+        }
+    }
+
+    public static void main(String[] args) {
+        Check check = new Check();
+        emptyAndFull(check);
+        atom(check);
+        paren(check);
+        prefix(check);
+        postfix(check);
+        infix(check);
+        undeclared(check);
+        symbolDecides(check);
+        emptyForest(check);
+        equalTrees(check);
+        identifyingTokens(check);
+        closeTokens(check);
+        oneNodeEach(check);
+        check.end();
+    }
+}
