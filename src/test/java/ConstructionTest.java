@@ -48,7 +48,7 @@ final class ConstructionTest {
             PrecRewrite x = new PrecRewrite(capacity);
             for (int round = 0; round < 4; round++) {
                 x.declare(round, PrecRewrite.LEFT, 1);
-                while (x.tokenCount() < capacity) {
+                for (int n = 0; n < capacity; n++) {
                     check.due("addToken below " + capacity, x.addToken(PrecRewrite.T_ATOM, 0), PrecRewrite.OK);
                 }
                 check.due("addToken at " + capacity, x.addToken(PrecRewrite.T_ATOM, 0), PrecRewrite.FULL);

@@ -51,6 +51,10 @@ final class EdgesTest {
         });
     }
 
+    private static int levelOf(String declaration) {
+        return declaration.charAt(2) - '0';
+    }
+
     private static void rootOrNone(Scene scene, String tokens, int forest, int root) {
         if (root < 0) {
             scene.parses(tokens, NO, forest);
@@ -97,6 +101,13 @@ final class EdgesTest {
             scene.hasRoot("~-a", 1, 0);
             scene.hasRoot("--~a", 1, 0);
         });
+        eachTwoInfix((plus, times, root) -> {
+            for (int p = 1; p < levelOf(times); p++) {
+                if (p != levelOf(plus)) {
+                    new Scene(check, 8, "-P" + p + " " + plus + " " + times).hasRoot("a+-a*a", 3, 1);
+                }
+            }
+        });
     }
 
     // The inner prefix shows through the outer one, so it takes the infix although the outer one binds tighter.
@@ -121,6 +132,13 @@ final class EdgesTest {
             scene.hasRoot("a!#", 1, 2);
             scene.hasRoot("a#!!", 1, 3);
         });
+        eachTwoInfix((plus, times, root) -> {
+            for (int p = 1; p < levelOf(plus); p++) {
+                if (p != levelOf(times)) {
+                    new Scene(check, 8, "!Q" + p + " " + plus + " " + times).hasRoot("a+a!*a", 3, 4);
+                }
+            }
+        });
     }
 
     private static void postfixLeftEdge(Check check) {
@@ -141,8 +159,8 @@ final class EdgesTest {
         check.sentence("RE = min(p, RE(r))");
         eachTwoInfix((plus, times, root) -> {
             for (int p = 1; p <= 6; p++) {
-                int m = times.charAt(2) - '0';
-                if (p != m && p != plus.charAt(2) - '0') {
+                int m = levelOf(times);
+                if (p != m && p != levelOf(plus)) {
                     Scene scene = new Scene(check, 8, "-P" + p + " " + plus + " " + times);
                     int due = p < m ? 1 : root == 3 ? 4 : root;
                     rootOrNone(scene, "a+-a*a", 3, due);
@@ -156,8 +174,8 @@ final class EdgesTest {
         check.sentence("INFIX level p, children l, r: LE = min(p, LE(l))");
         eachTwoInfix((plus, times, root) -> {
             for (int p = 1; p <= 6; p++) {
-                int m = plus.charAt(2) - '0';
-                if (p != m && p != times.charAt(2) - '0') {
+                int m = levelOf(plus);
+                if (p != m && p != levelOf(times)) {
                     Scene scene = new Scene(check, 8, "!Q" + p + " " + plus + " " + times);
                     int due = p < m ? 4 : root == 3 ? 4 : root;
                     rootOrNone(scene, "a+a!*a", 3, due);

@@ -11,10 +11,10 @@ final class TokenReadingTest {
             }
             x.addToken(PrecRewrite.T_ATOM, 0);
             check.due("tokenCount() after FULL", x.tokenCount(), capacity);
-            while (x.removeLast() == PrecRewrite.OK) {
-                check.holds("tokenCount() is below " + capacity, x.tokenCount() < capacity);
+            for (int n = capacity - 1; n >= 0; n--) {
+                x.removeLast();
+                check.due("tokenCount() after removeLast()", x.tokenCount(), n);
             }
-            check.due("tokenCount() at last", x.tokenCount(), 0);
         }
     }
 
@@ -58,8 +58,9 @@ final class TokenReadingTest {
             }
             x.addToken(PrecRewrite.T_OP, n);
         }
-        while (x.removeLast() == PrecRewrite.OK) {
-            check.due("tokenAt of what was removed", x.tokenAt(x.tokenCount()), -1);
+        for (int n = 15; n >= 0; n--) {
+            x.removeLast();
+            check.due("tokenAt(" + n + ") of what was removed", x.tokenAt(n), -1);
         }
     }
 

@@ -1,3 +1,5 @@
+import java.util.Arrays;
+
 /** The document's terms: the token string and its trees. */
 final class TreesTest {
     private static final int ONE = PrecRewrite.ONE_TREE;
@@ -88,19 +90,34 @@ final class TreesTest {
 
     private static void symbolDecides(Check check) {
         check.sentence("The level and kind of a PREFIX, POSTFIX or INFIX node are those of its symbol.");
-        for (int symbol = 0; symbol < 16; symbol++) {
-            for (int level = 1; level <= 6; level++) {
-                int other = (symbol + 5) % 16;
-                PrecRewrite x = new PrecRewrite(8);
-                x.declare(symbol, PrecRewrite.LEFT, level);
-                x.declare(other, PrecRewrite.RIGHT, level == 3 ? 4 : 3);
-                for (int i = 0; i < 5; i++) {
-                    x.addToken(i % 2 + 1, i == 1 ? symbol : other);
-                }
-                check.due("parse()", x.parse(), ONE);
-                check.due("root() with symbol " + symbol + " at " + level, x.root(), level > 3 ? 3 : 1);
+        PrecRewrite infix = new PrecRewrite(8);
+        PrecRewrite prefix = new PrecRewrite(8);
+        PrecRewrite postfix = new PrecRewrite(8);
+        for (int s = 0; s < 16; s++) {
+            infix.declare(s, PrecRewrite.LEFT, s % 6 + 1);
+            boolean isInfix = s % 2 == 0;
+            prefix.declare(s, isInfix ? PrecRewrite.LEFT : PrecRewrite.PREFIX, s % 6 + 1);
+            postfix.declare(s, isInfix ? PrecRewrite.LEFT : PrecRewrite.POSTFIX, s % 6 + 1);
+        }
+        for (int pair = 0; pair < 256; pair++) {
+            int one = pair / 16;
+            int two = pair % 16;
+            hasRoot(check, infix, two % 6 > one % 6 ? 1 : 3, -1, one, -1, two, -1);
+            if (one % 2 == 1 && two % 2 == 0) {
+                hasRoot(check, prefix, one % 6 > two % 6 ? 2 : 0, one, -1, two, -1);
+                hasRoot(check, postfix, one % 6 > two % 6 ? 1 : 3, -1, two, -1, one);
             }
         }
+    }
+
+    /** The root of a string of symbols, where -1 stands for an atom. */
+    private static void hasRoot(Check check, PrecRewrite x, int root, int... symbols) {
+        x.clearTokens();
+        for (int symbol : symbols) {
+            x.addToken(symbol < 0 ? PrecRewrite.T_ATOM : PrecRewrite.T_OP, symbol);
+        }
+        check.due("parse() of " + Arrays.toString(symbols), x.parse(), ONE);
+        check.due("root() of " + Arrays.toString(symbols), x.root(), root);
     }
 
     private static void emptyForest(Check check) {
