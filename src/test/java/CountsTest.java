@@ -137,9 +137,13 @@ final class CountsTest {
         }
     }
 
-    private static void changeNothing(Check check) {
-        check.sentence("It changes nothing.");
+    private static void treeCountChangesNothing(Check check) {
+        check.sentence("NO_TREE, ONE_TREE or MANY_TREES. It changes nothing.");
         Reading.changesNothing(check, "treeCount", (x, i) -> x.treeCount());
+    }
+
+    private static void forestSizeChangesNothing(Check check) {
+        check.sentence("never wrapped. It changes nothing.");
         Reading.changesNothing(check, "forestSize", (x, i) -> x.forestSize());
     }
 
@@ -147,11 +151,12 @@ final class CountsTest {
         Check check = new Check();
         noTreeCount(check);
         noneOrOne(check);
+        treeCountChangesNothing(check);
         noForestSize(check);
         admissibleOrNot(check);
         trueNumber(check);
         largest(check);
-        changeNothing(check);
+        forestSizeChangesNothing(check);
         check.end();
     }
 }

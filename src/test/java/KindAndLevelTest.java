@@ -47,9 +47,13 @@ final class KindAndLevelTest {
         }
     }
 
-    private static void changeNothing(Check check) {
-        check.sentence("It changes nothing.");
+    private static void kindOfChangesNothing(Check check) {
+        check.sentence("or undeclared. It changes nothing.");
         Reading.changesNothing(check, "kindOf", PrecRewrite::kindOf);
+    }
+
+    private static void levelOfChangesNothing(Check check) {
+        check.sentence("or undeclared. It changes nothing.");
         Reading.changesNothing(check, "levelOf", PrecRewrite::levelOf);
     }
 
@@ -57,9 +61,10 @@ final class KindAndLevelTest {
         Check check = new Check();
         kinds(check);
         noKind(check);
+        kindOfChangesNothing(check);
         levels(check);
         noLevel(check);
-        changeNothing(check);
+        levelOfChangesNothing(check);
         check.end();
     }
 }

@@ -60,6 +60,17 @@ final class ParseTest {
         }
     }
 
+    private static void resultHolds(Check check) {
+        check.sentence("The result holds: the number of admissible trees, the number of trees of the forest, and, if"
+                + " exactly one tree is admissible, that tree.");
+        Scene scene = new Scene(check, 8, Scene.DECLARED);
+        scene.parses("-a+a", ONE, 2);
+        scene.shape(2, "2:0:1", "0:1:1", "-1:0:3", "2:3:3");
+        scene.parses("a=a=a", NO, 2);
+        scene.hasNoShape("of none admissible");
+        scene.haveNoTree("a+");
+    }
+
     private static void answersTreeCount(Check check) {
         check.sentence("It answers what `treeCount()` then answers: NO_TREE (0), ONE_TREE (1) or MANY_TREES (2).");
         for (Scene scene : Scene.states(check)) {
@@ -160,6 +171,7 @@ final class ParseTest {
         neverRefused(check);
         replaces(check);
         replacesLongByShort(check);
+        resultHolds(check);
         answersTreeCount(check);
         again(check);
         changesNeither(check);

@@ -64,19 +64,24 @@ final class TokenReadingTest {
         }
     }
 
-    private static void changeNothing(Check check) {
-        check.sentence("It changes nothing.");
+    private static void tokenCountChangesNothing(Check check) {
+        check.sentence("the number of tokens n, in 0..capacity. It changes nothing.");
         Reading.changesNothing(check, "tokenCount", (x, i) -> x.tokenCount());
+    }
+
+    private static void tokenAtChangesNothing(Check check) {
+        check.sentence("(negative, or n or more). It changes nothing.");
         Reading.changesNothing(check, "tokenAt", PrecRewrite::tokenAt);
     }
 
     public static void main(String[] args) {
         Check check = new Check();
         counts(check);
+        tokenCountChangesNothing(check);
         codes(check);
         codesInThePlaceOfOthers(check);
         outside(check);
-        changeNothing(check);
+        tokenAtChangesNothing(check);
         check.end();
     }
 }

@@ -106,6 +106,31 @@ final class TreeShapeTest {
         }
     }
 
+    // As many nodes as there can be, in a chain.
+    private static void sixteenNodes(Check check) {
+        check.sentence("else the identifying token of the parent of the node of token i.");
+        Scene scene = new Scene(check, 16, OPERATORS);
+        for (int round = 0; round < 2; round++) {
+            scene.hasRoot("-".repeat(15) + "a", 1, 0);
+            for (int i = 0; i < 16; i++) {
+                isNode(check, scene.x, i, i - 1, i, 15);
+            }
+            scene.hasRoot("a" + "!".repeat(15), 1, 15);
+            for (int i = 0; i < 16; i++) {
+                isNode(check, scene.x, i, i == 15 ? PrecRewrite.NONE : i + 1, 0, i);
+            }
+            scene.hasRoot("a" + "+a".repeat(7) + "!", 1430, 13);
+            scene.shape(13, "1:0:0", "3:0:2", "1:2:2", "5:0:4", "3:4:4", "7:0:6", "5:6:6", "9:0:8", "7:8:8", "11:0:10",
+                    "9:10:10", "13:0:12", "11:12:12", "-1:0:15", "15:14:14", "13:14:15");
+        }
+    }
+
+    private static void isNode(Check check, PrecRewrite x, int i, int parent, int first, int last) {
+        check.due("parent(" + i + ")", x.parent(i), parent);
+        check.due("spanFirst(" + i + ")", x.spanFirst(i), first);
+        check.due("spanLast(" + i + ")", x.spanLast(i), last);
+    }
+
     private static void closeIsAsOpen(Check check) {
         check.sentence("For a CLOSE token the node is the PAREN node whose span ends at i, so its answer equals that of"
                 + " the matching OPEN.");
@@ -167,10 +192,18 @@ final class TreeShapeTest {
         }
     }
 
-    private static void changeNothing(Check check) {
-        check.sentence("They change nothing.");
+    private static void rootChangesNothing(Check check) {
+        check.sentence("(a position in 0..n-1). It changes nothing.");
         Reading.changesNothing(check, "root", (x, i) -> x.root());
+    }
+
+    private static void parentChangesNothing(Check check) {
+        check.sentence("so its answer equals that of the matching OPEN. It changes nothing.");
         Reading.changesNothing(check, "parent", PrecRewrite::parent);
+    }
+
+    private static void spansChangeNothing(Check check) {
+        check.sentence("They change nothing.");
         Reading.changesNothing(check, "spanFirst", PrecRewrite::spanFirst);
         Reading.changesNothing(check, "spanLast", PrecRewrite::spanLast);
     }
@@ -179,13 +212,16 @@ final class TreeShapeTest {
         Check check = new Check();
         noRoot(check);
         rootToken(check);
+        rootChangesNothing(check);
         parentValidity(check);
         rootHasNone(check);
+        sixteenNodes(check);
         closeIsAsOpen(check);
+        parentChangesNothing(check);
         spanValidity(check);
         spans(check);
         spansAtTheEnds(check);
-        changeNothing(check);
+        spansChangeNothing(check);
         check.end();
     }
 }

@@ -19,7 +19,27 @@ final class TreesTest {
             check.due("addToken", full.x.addToken(PrecRewrite.T_ATOM, 0), PrecRewrite.FULL);
             check.due("parse() of all " + capacity, full.x.parse(), ONE);
             check.due("spanLast of the last", full.x.spanLast(capacity - 1), capacity - 1);
+            for (String token : new String[] {"a", "(", ")", "-", "!", "+", "^", "=", "|"}) {
+                full.haveNoTree(token.repeat(capacity), token.repeat(capacity - 1));
+            }
         }
+    }
+
+    private static void everyToken(Check check) {
+        check.sentence("Each token is ATOM, OP s (s in 0..15, declared or not), OPEN or CLOSE.");
+        Scene scene = scene(check);
+        scene.add("a()");
+        int[] codes = {16, 48, 64};
+        for (int i = 0; i < 3; i++) {
+            check.due("tokenAt(" + i + ")", scene.x.tokenAt(i), codes[i]);
+        }
+        for (int s = 0; s < 16; s++) {
+            check.due("addToken OP " + s, scene.x.addToken(PrecRewrite.T_OP, s), PrecRewrite.OK);
+            check.due("tokenAt(3)", scene.x.tokenAt(3), 32 + s);
+            scene.x.removeLast();
+        }
+        check.due("addToken OP -1", scene.x.addToken(PrecRewrite.T_OP, -1), PrecRewrite.BAD_SYMBOL);
+        check.due("addToken OP 16", scene.x.addToken(PrecRewrite.T_OP, 16), PrecRewrite.BAD_SYMBOL);
     }
 
     private static void atom(Check check) {
@@ -201,6 +221,7 @@ final class TreesTest {
     public static void main(String[] args) {
         Check check = new Check();
         emptyAndFull(check);
+        everyToken(check);
         atom(check);
         paren(check);
         prefix(check);
